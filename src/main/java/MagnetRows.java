@@ -33,7 +33,7 @@ public final class MagnetRows {
         }
         Chain next = new Chain(n, ring, e, d);
         ledger.recordChain(next);
-        return next.states();
+        return next.states;
     }
 
     public long act(int from, int to) {
@@ -289,7 +289,7 @@ public final class MagnetRows {
         }
         Sum found = ledger.sumNow(k);
         Chain now = ledger.chainNow();
-        if (!found.within(now.states())) {
+        if (!found.within(now.states)) {
             return STATE;
         }
         Mixer works = wordRows();
@@ -459,7 +459,7 @@ public final class MagnetRows {
             case 1: return now.ring ? 1 : 0;
             case 2: return now.swap;
             case 3: return 100 + now.bent;
-            case 4: return now.pairs();
+            case 4: return now.pairs;
             case 5: return weightCount;
             case 6: return ledger.undoable();
             case 7: return ledger.redoable();
@@ -578,20 +578,16 @@ public final class MagnetRows {
         final boolean ring;
         final int swap;
         final int bent;
+        final int states;
+        final int pairs;
 
         Chain(int places, boolean ring, int swap, int bent) {
             this.places = places;
             this.ring = ring;
             this.swap = swap;
             this.bent = bent;
-        }
-
-        int states() {
-            return 1 << places;
-        }
-
-        int pairs() {
-            return ring ? places : places - 1;
+            states = 1 << places;
+            pairs = ring ? places : places - 1;
         }
 
         /** The two PLACES of a PAIR as bits. */
@@ -605,7 +601,7 @@ public final class MagnetRows {
                 return 0;
             }
             int found = 0;
-            for (int pair = 0; pair < pairs(); pair++) {
+            for (int pair = 0; pair < pairs; pair++) {
                 if (pairBits(pair) == bits) {
                     found++;
                 }
@@ -615,7 +611,7 @@ public final class MagnetRows {
 
         /** Each PLACE's bit goes to the next PLACE, whether THE CHAIN is a RING or not. */
         int onward(int bits) {
-            return (bits << 1 | bits >> (places - 1)) & (states() - 1);
+            return (bits << 1 | bits >> (places - 1)) & (states - 1);
         }
 
         int mirrored(int bits) {
@@ -630,15 +626,10 @@ public final class MagnetRows {
             return ring ? onward(state) : mirrored(state);
         }
 
-        int unlikePairs(int state) {
-            if (ring) {
-                return Integer.bitCount(state ^ onward(state));
-            }
-            return Integer.bitCount((state ^ state >> 1) & ((1 << (places - 1)) - 1));
-        }
-
+        /** How often H of a STATE has that STATE itself: d for each PAIR that is alike, less d for each other one. */
         int stay(int state) {
-            return bent * (pairs() - 2 * unlikePairs(state));
+            int changes = ring ? state ^ onward(state) : (state ^ state >> 1) & (states / 2 - 1);
+            return bent * (pairs - 2 * Integer.bitCount(changes));
         }
 
         /** How often H of one STATE has another. */
@@ -688,7 +679,7 @@ public final class MagnetRows {
             solved = false;
             restTried = false;
             orbits = 0;
-            for (int state = 0; state < chain.states(); state++) {
+            for (int state = 0; state < chain.states; state++) {
                 if (Integer.bitCount(state) == m && leads(state) && orbits < heads.length) {
                     heads[orbits] = state;
                     orbits++;
@@ -877,7 +868,7 @@ public final class MagnetRows {
                 twice = new long[256];
             }
             int count = 0;
-            for (int state = 0; state < of.states(); state++) {
+            for (int state = 0; state < of.states; state++) {
                 if (Integer.bitCount(state) == up && count < members.length) {
                     members[count] = state;
                     count++;
@@ -914,7 +905,7 @@ public final class MagnetRows {
         /** Adds so many times H of a STATE. */
         void spread(int state, long times, long[] into) {
             into[state] += times * of.stay(state);
-            for (int pair = 0; pair < of.pairs(); pair++) {
+            for (int pair = 0; pair < of.pairs; pair++) {
                 int bits = of.pairBits(pair);
                 int ups = state & bits;
                 if (ups != 0 && ups != bits) {
@@ -1117,7 +1108,7 @@ public final class MagnetRows {
         final long[] there = new long[8];
         final long[] next = new long[8];
 
-        /** The product along a row from its first edge's bit to its last one's: the bits between follow of themselves. */
+        /** The product along a row from its first edge's bit to its last one's: the bits between follow from it. */
         static long along(Plain w, int n, int s, int t, int first, int last) {
             long product = 1;
             int l = first;
@@ -1427,10 +1418,10 @@ public final class MagnetRows {
         /** THE CHAIN as a SUM: by x, then by z, so Z Z of all PAIRS come first. */
         void spell(Chain chain) {
             begin();
-            for (int bits = 1; bits < chain.states(); bits++) {
+            for (int bits = 1; bits < chain.states; bits++) {
                 emit(bits, 2L * chain.bent * chain.pairsOf(bits), 0);
             }
-            for (int bits = 1; bits < chain.states(); bits++) {
+            for (int bits = 1; bits < chain.states; bits++) {
                 int times = chain.swap * chain.pairsOf(bits);
                 emit(bits << 8, times, 0);
                 emit(bits << 8 | bits, times, 0);
@@ -1456,7 +1447,7 @@ public final class MagnetRows {
             }
         }
 
-        /** The product of two SUMS, or their BRACKET: there WORDS that change places freely fall out, others count twice. */
+        /** The product of two SUMS, or their BRACKET: WORDS that change places freely fall out, others count twice. */
         void multiply(Sum one, Sum other, boolean bracket) {
             begin();
             makeRoom(one.count() * other.count());
