@@ -1395,7 +1395,8 @@ public final class MagnetRows {
             begin();
             int i = 0;
             int j = 0;
-            while (i < one.count() || j < other.count()) {
+            int most = one.count() + other.count();
+            for (int step = 0; step < most && i + j < most; step++) {
                 boolean left = j >= other.count() || i < one.count() && one.keys[i] <= other.keys[j];
                 boolean right = i >= one.count() || j < other.count() && other.keys[j] <= one.keys[i];
                 int key = left ? one.keys[i] : other.keys[j];
@@ -1462,16 +1463,16 @@ public final class MagnetRows {
             }
             sortPairs(count);
             long times = bracket ? 2 : 1;
-            int at = 0;
-            while (at < count) {
+            re = 0;
+            im = 0;
+            for (int at = 0; at < count; at++) {
                 int key = pairs[at] >> 12;
-                re = 0;
-                im = 0;
-                while (at < count && pairs[at] >> 12 == key) {
-                    addProduct(one, pairs[at] >> 6 & 63, other, pairs[at] & 63);
-                    at++;
+                addProduct(one, pairs[at] >> 6 & 63, other, pairs[at] & 63);
+                if (at + 1 == count || pairs[at + 1] >> 12 != key) {
+                    emit(key, times * re, times * im);
+                    re = 0;
+                    im = 0;
                 }
-                emit(key, times * re, times * im);
             }
         }
 

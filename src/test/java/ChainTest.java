@@ -265,6 +265,8 @@ public final class ChainTest {
         due("11 all", of(3, false, 2, 1).whole(1, 1), 2);
         due("11 each as often as it is one", of(8, true, 2, 1).whole(4, 1), 4);
         due("11 all", of(7, true, 4, -1).whole(3, 1), 5);
+        due("11 some", of(6, true, 2, 1).whole(3, 1), 2);
+        due("11 some", of(6, true, 2, 1).whole(3, -1), 2);
         due("11 of none", of(5, true, 2, 1).whole(2, -1), 0);
         MagnetRows x = of(4, false, 1, 0);
         // x x - x - 1: neither root is whole.

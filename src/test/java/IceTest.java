@@ -43,6 +43,8 @@ public final class IceTest {
             due("16 outside", x.weights(w[0], w[1], w[2], w[3]), -2);
         }
         due("16 none came", x.many(5), 0);
+        due("16 the edges", x.weights(0, -9, -9, -9), 0);
+        due("16 the edges", x.weights(0, 9, 9, 9), 1);
     }
 
     private static void weightsOfSheets() {
