@@ -794,7 +794,7 @@ public final class MagnetRows {
             return sum;
         }
 
-        /** ITS POLYNOMIAL of x + c: its roots are the OWN NUMBERS, each less c. */
+        /** ITS POLYNOMIAL of x + c: its roots are the OWN NUMBERS, each less c. It fits for each c of -50 .. 50. */
         void shiftBy(int c) {
             System.arraycopy(coefficients, 0, shifted, 0, orbits + 1);
             for (int i = 0; i < orbits; i++) {
@@ -928,8 +928,8 @@ public final class MagnetRows {
         }
 
         /**
-         * ITS POLYNOMIAL without the root c, of ITS TABLE, has REST in each column that is not 0 (what is left of
-         * the table less c times the unit makes it 0); nothing is divided until the column's common divisor is.
+         * As ITS TABLE makes ITS POLYNOMIAL 0, the table less c makes each column of the polynomial without the root
+         * c 0: a column that is not 0 is REST but for a divisor, and until that one nothing needs to be divided.
          */
         boolean findRest(int c) {
             spare[orbits - 1] = 1;
