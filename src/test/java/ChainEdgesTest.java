@@ -1,17 +1,11 @@
 import java.util.stream.IntStream;
 
 /** The edges of THE CHAIN: part 1 of the terms, and promises 1 to 15. */
-public final class ChainEdgesTest {
-    private static final int UNKNOWN = -1, OUTSIDE = -2, STATE = -3, SPENT = -6;
-    private static final long LOST = Long.MIN_VALUE;
-    private static final int MIN = Integer.MIN_VALUE;
-    private static final int MAX = Integer.MAX_VALUE;
+public final class ChainEdgesTest extends Edges {
     private static final int[] NO_SIGNS = {0, 2, -2, 3, MIN, MAX};
 
     public static void main(String[] args) {
-        Said said = new Said(true);
-        tell(said);
-        said.end();
+        Said.ask(ChainEdgesTest::tell);
     }
 
     static void tell(Said said) {
@@ -108,7 +102,7 @@ public final class ChainEdgesTest {
         said.section("Promise 14: rest");
         said.says("REST at c (-50 .. 50): the number of the i-th ORBIT.", ChainEdgesTest::rest);
         said.says("LOST: OUTSIDE;", ChainEdgesTest::restOutside);
-        said.says("SPENT: the SECTOR;", at -> spent(at, LOST, "rest", 0, 0));
+        said.says("SPENT: the SECTOR;", ChainEdgesTest::restSpent);
         said.says("STATE: c is not an OWN NUMBER just once;", ChainEdgesTest::restNotJustOnce);
         said.says("UNKNOWN: i; SPENT.", ChainEdgesTest::restUnknown);
         said.section("Promise 15: seen");
@@ -734,46 +728,39 @@ public final class ChainEdgesTest {
 
     // ---- promises 5 to 15
 
+    /** A SECTOR ahead of other arguments. */
+    private static Object[] sector(int m, int sign, Object... more) {
+        Object[] given = new Object[2 + more.length];
+        given[0] = m;
+        given[1] = sign;
+        System.arraycopy(more, 0, given, 2, more.length);
+        return given;
+    }
+
     /** M is taken from 0 to N, SIGN is 1 or -1; both are refused beyond. */
     private static void sectorLimits(Said said, long refusal, String call, Object... more) {
         for (int n = 2; n <= 6; n += 2) {
             Run x = said.chain(n, true, 2, 1);
-            Object[] given = new Object[2 + more.length];
-            System.arraycopy(more, 0, given, 2, more.length);
-            given[0] = n / 2;
-            given[1] = 1;
-            x.limits(refusal, 0, n, 0, call, given);
-            x.taken(1, -1, call, given);
+            x.limits(refusal, 0, n, 0, call, sector(0, 1, more));
+            x.taken(1, -1, call, sector(n / 2, 1, more));
             for (int sign : NO_SIGNS) {
-                Object[] wrong = given.clone();
-                wrong[1] = sign;
-                x.refused(refusal, call, wrong);
+                x.refused(refusal, call, sector(n / 2, sign, more));
             }
-            Object[] both = given.clone();
-            both[0] = n + 1;
-            both[1] = 0;
-            x.refused(refusal, call, both);
+            x.refused(refusal, call, sector(n + 1, 0, more));
         }
     }
 
     /** SECTORS of 12, 16 and 38 ORBITS are SPENT, those of 9 and 10 are not. */
     private static void spent(Said said, long refusal, String call, Object... more) {
-        Object[] given = new Object[2 + more.length];
-        System.arraycopy(more, 0, given, 2, more.length);
         int[][] sectors = {{7, 2, 1}, {7, 3, -1}, {7, 4, 1}, {8, 2, -1}, {8, 4, 1}, {8, 4, -1}, {8, 6, 1}};
-        for (int[] sector : sectors) {
-            Run x = said.chain(sector[0], false, 2, 1);
-            given[0] = sector[1];
-            given[1] = sector[2];
-            x.refused(refusal, call, given);
+        for (int[] one : sectors) {
+            Run x = said.chain(one[0], false, 2, 1);
+            x.refused(refusal, call, sector(one[1], one[2], more));
         }
-        if (!call.equals("rest")) {
-            int[][] others = {{6, 3, 1}, {6, 3, -1}, {7, 2, -1}};
-            for (int[] sector : others) {
-                Run x = said.chain(sector[0], false, 2, 1);
-                given[0] = sector[1];
-                x.taken(1, sector[2], call, given);
-            }
+        int[][] others = {{6, 3, 1}, {6, 3, -1}, {7, 2, -1}};
+        for (int[] one : others) {
+            Run x = said.chain(one[0], false, 2, 1);
+            x.taken(1, one[2], call, sector(one[1], 1, more));
         }
     }
 
@@ -1019,24 +1006,35 @@ public final class ChainEdgesTest {
 
     /** Whatever a wrong SIGN might be taken for, at no c there is a REST. */
     private static void noSignHasOwnNumbers(Said said, String call, Object... more) {
-        Object[] given = new Object[3 + more.length];
-        System.arraycopy(more, 0, given, 3, more.length);
         for (int sign : NO_SIGNS) {
             Run x = said.chain(4, true, 2, 1);
             for (int c = -50; c <= 50; c++) {
-                given[0] = 1;
-                given[1] = sign;
-                given[2] = c;
-                x.due(LOST, call, given.clone());
+                x.due(LOST, call, sector(1, sign, at(c, more)));
             }
         }
         Run x = said.chain(4, true, 2, 1);
-        given[1] = 1;
-        given[2] = 4;
-        x.told(call.equals("rest") ? 1 : 0, call, given);
-        given[1] = -1;
-        given[2] = -4;
-        x.told(call.equals("rest") ? 1 : 0, call, given);
+        x.taken(1, 1, call, sector(1, 1, at(4, more)));
+        x.taken(1, -1, call, sector(1, -1, at(-4, more)));
+    }
+
+    /** A number c ahead of other arguments. */
+    private static Object[] at(int c, Object... more) {
+        Object[] given = new Object[1 + more.length];
+        given[0] = c;
+        System.arraycopy(more, 0, given, 1, more.length);
+        return given;
+    }
+
+    /** Where e is 2 d, all numbers alike are a REST at d for each PAIR, of each M. */
+    private static void restSpent(Said said) {
+        for (int n = 6; n <= 8; n++) {
+            Run x = said.chain(n, false, 2, 1);
+            for (int m = 0; m <= n; m++) {
+                boolean spent = n > 6 && m > 1 && m < n - 1;
+                x.told(spent ? LOST : 1, "rest", m, 1, n - 1, 0);
+                x.told(spent ? LOST : 1, "seen", m, 1, n - 1, 0, 0, 1);
+            }
+        }
     }
 
     private static void restNotJustOnce(Said said) {

@@ -1,18 +1,11 @@
 import java.math.BigInteger;
 
 /** The edges of ice: part 2 of the terms, and promises 16 to 23. */
-public final class IceEdgesTest {
-    private static final int UNKNOWN = -1, OUTSIDE = -2, FULL = -4;
-    private static final int NULL = 1, CAST = 2, INDEX = 3;
-    private static final long LOST = Long.MIN_VALUE;
-    private static final int MIN = Integer.MIN_VALUE;
-    private static final int MAX = Integer.MAX_VALUE;
+public final class IceEdgesTest extends Edges {
     private static final long PRIME = 1000000007L;
 
     public static void main(String[] args) {
-        Said said = new Said(true);
-        tell(said);
-        said.end();
+        Said.ask(IceEdgesTest::tell);
     }
 
     static void tell(Said said) {
@@ -101,22 +94,6 @@ public final class IceEdgesTest {
             x.due(i / 3, "weights", 0, numbers[i], numbers[i + 1], numbers[i + 2]);
         }
         return x;
-    }
-
-    /** Known are as many as came: none of a new object, three here, six at most. */
-    private static void unknownWeights(Said said, long refusal, int at, String call, Object... given) {
-        Run x = said.run();
-        for (int k : new int[] {-1, 0, 1, MIN, MAX}) {
-            Object[] other = given.clone();
-            other[at] = k;
-            x.refused(refusal, call, other);
-        }
-        weightsFor(said).limits(refusal, 0, 2, at, call, given);
-        x = weightsFor(said);
-        for (int k = 3; k < 6; k++) {
-            x.due(k, "weights", 0, 1, 1, 1);
-        }
-        x.limits(refusal, 0, 5, at, call, given);
     }
 
     private static BigInteger big(long number) {

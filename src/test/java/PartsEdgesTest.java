@@ -1,17 +1,9 @@
 import java.math.BigInteger;
 
 /** The edges of undo, sheets and parts: part 4 of the terms, and promises 33 to 45. */
-public final class PartsEdgesTest {
-    private static final int UNKNOWN = -1, OUTSIDE = -2, STATE = -3, SPENT = -6;
-    private static final int NULL = 1, CAST = 2, INDEX = 3, SIZE = 4;
-    private static final long LOST = Long.MIN_VALUE;
-    private static final int MIN = Integer.MIN_VALUE;
-    private static final int MAX = Integer.MAX_VALUE;
-
+public final class PartsEdgesTest extends Edges {
     public static void main(String[] args) {
-        Said said = new Said(true);
-        tell(said);
-        said.end();
+        Said.ask(PartsEdgesTest::tell);
     }
 
     static void tell(Said said) {
@@ -72,13 +64,13 @@ public final class PartsEdgesTest {
         said.says("INDEX: i, j, n below 0 or beyond.", PartsEdgesTest::copyIndex);
         said.section("Promise 40: tell");
         said.says("TELLING of WEIGHTS.", PartsEdgesTest::tellAll);
-        said.says("UNKNOWN.", at -> unknownWeights(at, "tell", 0));
+        said.says("UNKNOWN.", at -> unknownWeights(at, UNKNOWN, 0, "tell", 0));
         said.section("Promise 41: name");
         said.says("How they are NAMED.", PartsEdgesTest::name);
-        said.says("UNKNOWN.", at -> unknownWeights(at, "name", 0));
+        said.says("UNKNOWN.", at -> unknownWeights(at, UNKNOWN, 0, "name", 0));
         said.section("Promise 42: as");
         said.says("WEIGHTS, taken as ones of a kind: 1.", PartsEdgesTest::as);
-        said.says("UNKNOWN;", at -> unknownWeights(at, "as", 0, 0));
+        said.says("UNKNOWN;", at -> unknownWeights(at, UNKNOWN, 0, "as", 0, 0));
         said.says("OUTSIDE;", PartsEdgesTest::asOutside);
         said.says("CAST: they are none (SIGNED ones are TURNED, all are PLAIN).", PartsEdgesTest::asCast);
         said.section("Promise 43: trace");
@@ -113,19 +105,6 @@ public final class PartsEdgesTest {
         x.faulted(INDEX, "cell", k, want.length, lane);
     }
 
-    private static void unknownWeights(Said said, String call, Object... given) {
-        Run x = said.run();
-        for (int k : new int[] {-1, 0, 1, MIN, MAX}) {
-            Object[] other = given.clone();
-            other[0] = k;
-            x.refused(UNKNOWN, call, other);
-        }
-        for (int count = 1; count <= 6; count++) {
-            x.due(count - 1, "weights", count % 3, 1, 2, 3);
-            x.limits(UNKNOWN, 0, count - 1, 0, call, given);
-        }
-    }
-
     // ---- undo: the terms, promises 33 and 34
 
     /** One act of each kind, and one that changes nothing. */
@@ -135,9 +114,7 @@ public final class PartsEdgesTest {
     };
 
     private static void act(Run x, int number) {
-        Object[] given = new Object[ACTS[number].length - 1];
-        System.arraycopy(ACTS[number], 1, given, 0, given.length);
-        x.made((String) ACTS[number][0], given);
+        x.made((String) ACTS[number][0], behind(ACTS[number], 1));
     }
 
     private static Run behindActs(Said said, int acts) {
@@ -816,12 +793,10 @@ public final class PartsEdgesTest {
             {OUTSIDE, "weightsOf", 3, 0, 0, 0}, {OUTSIDE, "weightsOf", 0, 1, 1, 0},
         };
         for (Object[] call : calls) {
-            Object[] given = new Object[call.length - 2];
-            System.arraycopy(call, 2, given, 0, given.length);
             Run x = said.full();
             x.due(-12, "as", 0, 2);
             x.due(2, "fault");
-            x.due(((Number) call[0]).longValue(), (String) call[1], given);
+            x.due(((Number) call[0]).longValue(), (String) call[1], behind(call, 2));
             x.due(0, "fault");
         }
         // FULL is a refusal, too.

@@ -97,22 +97,16 @@ final class Run {
             taken(at, value, name, given);
         }
         for (int value : new int[] {low - 1, high + 1, Integer.MIN_VALUE, Integer.MAX_VALUE}) {
-            refused(refusal, name, with(given, at, value));
+            refused(refusal, name, Edges.with(given, at, value));
         }
     }
 
     /** One argument is taken, told on an object like this one. */
     void taken(int at, int value, String name, Object... given) {
-        Call call = new Call(name, with(given, at, value));
+        Call call = new Call(name, Edges.with(given, at, value));
         long got = ask(again(), call);
         boolean refused = call.answersLong() ? got == MagnetRows.LOST : got < 0;
         said.holds(behind(call) + " answered " + got + ": it is refused", !refused);
-    }
-
-    private static Object[] with(Object[] given, int at, int value) {
-        Object[] other = given.clone();
-        other[at] = value;
-        return other;
     }
 
     private void unchanged(long want, int fault, Call call) {

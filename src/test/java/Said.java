@@ -23,6 +23,13 @@ final class Said {
         this.asking = asking;
     }
 
+    /** Asks all that a test tells, then ends with exit code 1 if a sentence does not hold. */
+    static void ask(Test tells) {
+        Said said = new Said(true);
+        tells.ask(said);
+        said.end();
+    }
+
     /** The heading under which the sentences that come stand in the document. */
     void section(String heading) {
         section = heading;
@@ -122,8 +129,7 @@ final class Said {
         }
     }
 
-    /** Ends the test, with exit code 1 if a sentence does not hold. */
-    void end() {
+    private void end() {
         System.out.println(sentences + " sentences, " + asked + " answers, " + wrong + " not as due");
         System.exit(wrong == 0 && asked > 0 ? 0 : 1);
     }

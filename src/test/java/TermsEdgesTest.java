@@ -4,17 +4,9 @@ import java.nio.file.Files;
 import java.nio.file.Path;
 
 /** What the document says of all calls: how long an object lasts, refusals and their order, FAULTS. */
-public final class TermsEdgesTest {
-    private static final int UNKNOWN = -1, OUTSIDE = -2, STATE = -3, FULL = -4, SPENT = -6;
-    private static final int NULL = 1, CAST = 2, INDEX = 3, SIZE = 4;
-    private static final long LOST = Long.MIN_VALUE;
-    private static final int MIN = Integer.MIN_VALUE;
-    private static final int MAX = Integer.MAX_VALUE;
-
+public final class TermsEdgesTest extends Edges {
     public static void main(String[] args) {
-        Said said = new Said(true);
-        tell(said);
-        said.end();
+        Said.ask(TermsEdgesTest::tell);
     }
 
     static void tell(Said said) {
@@ -221,9 +213,7 @@ public final class TermsEdgesTest {
     private static void refusalsChangeNothing(Said said) {
         Run x = said.full();
         for (Object[] call : REFUSED) {
-            Object[] given = new Object[call.length - 2];
-            System.arraycopy(call, 2, given, 0, given.length);
-            x.refused(((Number) call[0]).longValue(), (String) call[1], given);
+            x.refused(((Number) call[0]).longValue(), (String) call[1], behind(call, 2));
         }
         x.due(7, "redo");
         x.refused(STATE, "shift", 0, 2, 0);

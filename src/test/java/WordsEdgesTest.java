@@ -1,18 +1,12 @@
 /** The edges of words: part 3 of the terms, and promises 24 to 32. */
-public final class WordsEdgesTest {
-    private static final int UNKNOWN = -1, OUTSIDE = -2, STATE = -3, SPENT = -6;
-    private static final long LOST = Long.MIN_VALUE;
-    private static final int MIN = Integer.MIN_VALUE;
-    private static final int MAX = Integer.MAX_VALUE;
+public final class WordsEdgesTest extends Edges {
     private static final int MILLION = 1000000;
     /** Letters 0 nothing, 1 X, 2 Y, 3 Z, as bits. */
     private static final int[] X = {0, 1, 1, 0};
     private static final int[] Z = {0, 0, 1, 1};
 
     public static void main(String[] args) {
-        Said said = new Said(true);
-        tell(said);
-        said.end();
+        Said.ask(WordsEdgesTest::tell);
     }
 
     static void tell(Said said) {
